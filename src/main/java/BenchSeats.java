@@ -805,7 +805,10 @@ public final class BenchSeats {
         }
 
         int placesFor(Sitter one) {
-            return one.sitsNow() ? 0 : placesForKind(one.kind, taken(), takenByFriends());
+            if (one.sitsNow()) {
+                return 0;
+            }
+            return placesForKind(one.kind, taken(), one.isOf(FRIEND) ? takenByFriends() : 0);
         }
 
         int placesForKind(int kind, int taken, int friends) {
@@ -965,27 +968,27 @@ public final class BenchSeats {
             // Larger sets first: what follows a set stands already when the set comes.
             for (int left = 1 << Integer.bitCount(free); left > 0; left--) {
                 int set = taken | more;
-                from[set] = joined(set, bench.ordinary(set), bench.size, what);
+                from[set] = joined(set, bench.ordinary(set), what);
                 more = (more - 1) & free;
             }
             return from[taken];
         }
 
         /** What is asked of a set of places by what is known of those that come right behind it. */
-        private int joined(int set, int open, int size, int what) {
+        private int joined(int set, int open, int what) {
             if (open == 0) {
                 return what == WAYS ? 1 : 0;
             }
             int most = 0;
             int least = Integer.MAX_VALUE;
             long sum = 0;
-            for (int p = 0; p < size; p++) {
-                if (has(open, p)) {
-                    int next = from[set | 1 << p];
-                    most = next > most ? next : most;
-                    least = next < least ? next : least;
-                    sum += next;
-                }
+            int untried = open;
+            for (int left = Integer.bitCount(open); left > 0; left--) {
+                int next = from[set | untried & -untried];
+                untried &= untried - 1;
+                most = next > most ? next : most;
+                least = next < least ? next : least;
+                sum += next;
             }
             switch (what) {
                 case MOST: return most + 1;
