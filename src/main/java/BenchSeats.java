@@ -942,7 +942,7 @@ public final class BenchSeats {
         }
 
         void oneRises() {
-            // "Nothing without": where there is no sitter, not even the draw is made.
+            // Without sitters nothing is done at all, so that not even a draw is used up.
             if (sitterCount > 0) {
                 sitters[draw() % sitterCount].place = -1;
             }
@@ -1010,46 +1010,41 @@ public final class BenchSeats {
             return set;
         }
 
-        /** Finds the free place at which a softer cushion makes the greatest gain most. */
+        /**
+         * Finds the free place at which a softer cushion makes the greatest gain most. The greatest gain is got
+         * with some place or other, and more is got there: no place that it leaves out can be better.
+         */
         void weigh(Inn inn, int taken) {
-            Bench bench = inn.bench;
-            int plain = gatherGains(inn, taken);
-            bestPlace = NONE;
-            bestGain = NONE;
-            for (int p = 0; p < bench.size; p++) {
-                if (!has(taken, p)) {
-                    int gain = bestWith[p] == UNREACHED ? plain : Math.max(plain, bestWith[p] + EXTRA);
-                    if (bestPlace == NONE || gain > bestGain) {
-                        bestPlace = p;
-                        bestGain = gain;
-                    }
+            gatherGains(inn, taken);
+            bestPlace = Integer.numberOfTrailingZeros(~taken);
+            for (int p = bestPlace + 1; p < inn.bench.size; p++) {
+                if (!has(taken, p) && bestWith[p] > bestWith[bestPlace]) {
+                    bestPlace = p;
                 }
             }
+            bestGain = bestWith[bestPlace] == UNREACHED ? 0 : bestWith[bestPlace] + EXTRA;
         }
 
-        /** The greatest gain of all; and for each place, of those in which it is taken. */
-        private int gatherGains(Inn inn, int taken) {
+        /** For each place the greatest gain with which it is taken. */
+        private void gatherGains(Inn inn, int taken) {
             Bench bench = inn.bench;
-            for (int set = taken; set <= bench.all; set++) {
-                from[set] = UNREACHED;
-            }
             for (int p = 0; p < MOST_PLACES; p++) {
                 bestWith[p] = UNREACHED;
             }
+            for (int set = taken; set <= bench.all; set++) {
+                from[set] = UNREACHED;
+            }
             from[taken] = 0;
-            int greatest = 0;
             for (int set = taken; set <= bench.all; set++) {
                 if (from[set] != UNREACHED) {
                     int open = bench.ordinary(set);
                     if (open == 0) {
-                        greatest = Math.max(greatest, from[set]);
                         noteGain(set & ~taken, from[set]);
                     } else {
                         spreadGain(inn, set, open);
                     }
                 }
             }
-            return greatest;
         }
 
         private void noteGain(int sat, int gain) {

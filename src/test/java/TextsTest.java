@@ -43,6 +43,12 @@ public final class TextsTest {
         fault(" fare  ", 7);
         fault("far p", 0);
         fault("fares", 0);
+        fault("farez", 0);
+        fault("afare p", 0);
+        fault("fare{", 4);
+        fault("fare`", 4);
+        fault("fare 1:", 6);
+        fault("fare 1/", 7);
         fault("  FARE p", 2);
         fault("12", 0);
         fault("fare1", 4);
