@@ -900,21 +900,25 @@ public final class BenchSeats {
         boolean oneComes() {
             for (int i = 0; i < sitterCount; i++) {
                 if (!sitters[i].sitsNow()) {
-                    int set = placesFor(sitters[i]);
-                    if (set == 0) {
+                    int place = choose(placesFor(sitters[i]));
+                    if (place == NONE) {
                         return false;
                     }
-                    seat(sitters[i], choose(set));
+                    seat(sitters[i], place);
                     return true;
                 }
             }
             return false;
         }
 
-        /** The place chosen by the rule of a set that is not empty. */
+        /** The place of a set that the rule chooses; NONE of an empty one, without a draw. */
         int choose(int set) {
+            int many = Integer.bitCount(set);
+            if (many == 0) {
+                return NONE;
+            }
             if (rules[RULE] == BY_LOT) {
-                return nthOf(set, draw() % Integer.bitCount(set));
+                return nthOf(set, draw() % many);
             }
             int best = Integer.numberOfTrailingZeros(set);
             if (rules[RULE] == BY_LEAST) {
@@ -938,7 +942,7 @@ public final class BenchSeats {
                     ahead++;
                 }
             }
-            return 0;
+            return NONE;
         }
 
         void oneRises() {
