@@ -984,7 +984,8 @@ public final class BenchSeats {
                 return what == WAYS ? 1 : 0;
             }
             int most = 0;
-            int least = Integer.MAX_VALUE;
+            // Nothing that is told of a set reaches the modulus.
+            int least = MODULUS;
             long sum = 0;
             int untried = open;
             for (int left = Integer.bitCount(open); left > 0; left--) {

@@ -227,12 +227,54 @@ public final class BenchEdgesTest {
         maySit("all of twelve in a ROW", 12, 0, 0, nobody, 4095, 2047, 4095, 2047, 4095, 4095);
     }
 
+    /** Three sit at 0, 4 and 8; one that stands, of this number and kind, may sit there. */
+    private static int besideThree(int number, int kind, int... seatedKinds) {
+        BenchSeats x = new BenchSeats();
+        int next = 0;
+        for (int k = 0; k < 4; k++) {
+            x.sitter(k == number ? kind : seatedKinds[next++]);
+        }
+        next = 0;
+        for (int k = 0; k < 4; k++) {
+            if (k != number) {
+                x.sits(k, 4 * next++);
+            }
+        }
+        due.is(4, "three sit", x.inn(0), 0b100010001);
+        return x.told(number, 5);
+    }
+
+    /** Whatever numbers the friends bear, and however many of them there are. */
+    private static void friendsOfAnyNumber() {
+        for (int number = 0; number < 4; number++) {
+            for (int seated = 0; seated < 8; seated++) {
+                int[] kinds = new int[3];
+                // Between none lie 2 and 6; the friends' own neighbours come to them.
+                int want = 0b001000100;
+                int[] beside = {0b000000010, 0b000101000, 0b010000000};
+                for (int k = 0; k < 3; k++) {
+                    kinds[k] = (seated >> k & 1) == 0 ? SHY : k == 1 ? TWIN : FRIEND;
+                    want |= (seated >> k & 1) == 0 ? 0 : beside[k];
+                }
+                String which = "number " + number + " beside friends " + seated;
+                due.is(4, "FRIEND, " + which, besideThree(number, FRIEND, kinds), want);
+                due.is(4, "TWIN, " + which, besideThree(number, TWIN, kinds), 0b011101110);
+                due.is(4, "SITTER, " + which, besideThree(number, SITTER, kinds), 0b001000100);
+                due.is(4, "SHY, " + which, besideThree(number, SHY, kinds), 0b001000100);
+                due.is(4, "WIDE, " + which, besideThree(number, WIDE, kinds), 0);
+                due.is(4, "FAT, " + which, besideThree(number, FAT, kinds), 0);
+            }
+        }
+    }
+
     private static void worth() {
         for (int sat : new int[] {0, 1, 99, 100, 101}) {
             int[] want = {sat, sat + 6, 99 - sat, 2 * (sat + 6), 95 - sat, 3};
             for (int kind = 0; kind < 6; kind++) {
                 BenchSeats x = new BenchSeats();
                 x.sitter(kind);
+                // What it pays is no part of what it is worth.
+                x.rule(0, 23);
                 x.rule(2, 100);
                 x.rule(3, 100);
                 // With nobody else each minute it sits down and rises.
@@ -397,6 +439,25 @@ public final class BenchEdgesTest {
         }
     }
 
+    /** Each name of fare by itself, where no two of them are alike. */
+    private static void namesOfFare() {
+        String[] fares = {"fare p", "fare c", "fare s", "fare p*100+c*10+s"};
+        int[] want = {5, 7, 2, 572};
+        for (int i = 0; i < fares.length; i++) {
+            BenchSeats x = new BenchSeats();
+            x.sitter(SITTER);
+            for (int sat = 0; sat < 2; sat++) {
+                x.sits(0, 8);
+                x.rises(0);
+            }
+            x.rule(0, 5);
+            x.cushion(3, 7);
+            x.cushion(4, 9);
+            Due.text(x, fares[i]);
+            due.is(7, fares[i], x.sits(0, 3), want[i]);
+        }
+    }
+
     private static void rises() {
         for (int sitter : new int[] {-1, 7, LOW, HIGH}) {
             due.refused(8, "rises " + sitter, x -> x.rises(sitter), BAD);
@@ -544,6 +605,7 @@ public final class BenchEdgesTest {
         toldRefusals();
         toldOfOneThatSits();
         allMaySit();
+        friendsOfAnyNumber();
         worth();
         asOne();
         turns();
@@ -552,6 +614,7 @@ public final class BenchEdgesTest {
         paysAtTheSeam();
         penniesAreHeld();
         satAheadOfIt();
+        namesOfFare();
         rises();
         who();
         cushion();

@@ -158,6 +158,74 @@ public final class ImageEdgesTest {
         }
     }
 
+    /** How many minutes are left is told by the minute of the image, whatever the minute is now. */
+    private static void checkByTheMinuteOfTheImage() {
+        int[] rows = told(30);
+        BenchSeats x = kept();
+        Edge.waitUntil(x, 9999);
+        tellAll(x, rows, 60);
+        due.is(40, "an IMAGE of the first MINUTE, now it is the last", x.check(30), 0);
+        tellAll(x, rows, 58);
+        due.is(40, "all thirty are due", x.check(30), 59);
+        x = new BenchSeats();
+        Edge.waitUntil(x, 9990);
+        x.keep();
+        Edge.waitUntil(x, 9999);
+        // Nobody is there: no place is ever taken, nothing is ever paid.
+        tellAll(x, new int[60], 18);
+        due.is(40, "an IMAGE of nine MINUTES ahead of the last", x.check(30), 0);
+        tellAll(x, new int[60], 17);
+        due.is(40, "the ninth is due", x.check(30), 18);
+    }
+
+    /** More texts than sitters, all of them kept. */
+    private static void allTextsAreKept() {
+        String[] keys = {"fare", "fee", "fine"};
+        BenchSeats x = new BenchSeats();
+        for (int t = 0; t < 14; t++) {
+            Due.text(x, keys[t % 3] + " " + t + "+1");
+        }
+        x.keep();
+        for (int round = 0; round < 2; round++) {
+            due.is(42, "no SITTERS", x.back(), 0);
+            due.is(42, "fourteen TEXTS", x.count(9), 14);
+            for (int t = 0; t < 14; t++) {
+                due.is(42, "KEY of " + t, x.textTold(t, 0), t % 3);
+                due.is(42, "NUMBERS and NAMES of " + t, x.textTold(t, 1), 2);
+            }
+            due.is(42, "fee of the last of its KEY", x.fee(), 14);
+            x.sitter(SITTER);
+            due.is(42, "fine of the last of its KEY", x.fine(0), 12);
+            due.is(42, "fare of the last of its KEY", x.sits(0, 0), 13);
+        }
+    }
+
+    /** What will be, and the minutes told, go by the last of many texts, though there is but one sitter. */
+    private static void lastTextCounts() {
+        BenchSeats x = new BenchSeats();
+        x.sitter(SITTER);
+        x.rule(2, 100);
+        x.rule(3, 0);
+        for (int t = 0; t < 13; t++) {
+            Due.text(x, "fee 1");
+        }
+        x.keep();
+        Due.text(x, "fare 30");
+        due.is(19, "the fourteenth TEXT", x.behind(1, 1), 30);
+        x.tell(x.behind(1, 0));
+        x.tell(1);
+        due.is(40, "THE IMAGE has no TEXT of fare", x.check(1), 0);
+        x.back();
+        Due.text(x, "fare 20");
+        due.is(19, "another fourteenth TEXT", x.behind(1, 1), 20);
+        x.keep();
+        x.tell(x.behind(1, 0));
+        x.tell(20);
+        due.is(40, "THE IMAGE has it now", x.check(1), 0);
+        due.is(42, "back", x.back(), 1);
+        due.is(42, "the TEXT that was kept", x.sits(0, 0), 20);
+    }
+
     private static void keep() {
         BenchSeats x = new BenchSeats();
         due.is(41, "no SITTERS", x.keep(), 0);
@@ -332,6 +400,9 @@ public final class ImageEdgesTest {
         checkRefusals();
         checkBounds();
         checkAtTheLastMinute();
+        checkByTheMinuteOfTheImage();
+        allTextsAreKept();
+        lastTextCounts();
         keep();
         back();
         imageIsItsOwn();

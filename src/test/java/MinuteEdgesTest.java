@@ -2,7 +2,7 @@
 public final class MinuteEdgesTest {
     private static final int BAD = BenchSeats.BAD, NONE = BenchSeats.NONE;
     private static final int LOW = Integer.MIN_VALUE, HIGH = Integer.MAX_VALUE;
-    private static final int SITTER = 0, WIDE = 1, FAT = 3, TWIN = 4, SHY = 5;
+    private static final int SITTER = 0, WIDE = 1, FRIEND = 2, FAT = 3, TWIN = 4, SHY = 5;
     private static final Edge due = new Edge();
 
     /** An inn where each minute somebody would come, or rise, or not, by these rules. */
@@ -186,6 +186,52 @@ public final class MinuteEdgesTest {
         due.is(14, "it paid twice", x.inn(1), 4);
     }
 
+    /** The first place, and the softest, are passed over where one may not sit there. */
+    private static void onlyWhereItMay() {
+        for (int rule = 1; rule <= 2; rule++) {
+            BenchSeats x = by(rule, 100, 0);
+            Edge.seat(x, SITTER, 0);
+            Edge.seat(x, SITTER, 6);
+            x.sitter(SITTER);
+            int[] soft = {99, 99, 1, 0, 3, 99, 99, 99, 2};
+            for (int p = 0; p < 9; p++) {
+                x.cushion(p, soft[p]);
+            }
+            // Beside 0 and 6 one may not sit; of 2, 3, 4 and 8 the least is 2, the softest 4.
+            due.is(14, "RULE " + rule + ": where it MAY", x.told(2, 5), 0b100011100);
+            x.minutes(1);
+            due.is(14, "RULE " + rule + ": not where it may not", x.told(2, 1), rule == 1 ? 2 : 4);
+            x.rises(2);
+            x.turns(2, WIDE);
+            x.cushion(8, 99);
+            x.cushion(3, 98);
+            // A WIDE one may sit at 2 and 3 alone: at 8 its second place is not there.
+            x.minutes(1);
+            due.is(14, "RULE " + rule + ": a WIDE one", x.told(2, 1), rule == 1 ? 2 : 3);
+        }
+    }
+
+    /** Each place in its turn has the greatest cushion; of two that are alike the lesser is chosen. */
+    private static void softestAnywhere() {
+        for (int softest = 0; softest < 12; softest++) {
+            BenchSeats x = by(2, 100, 0);
+            x.bench(12, 0, 0);
+            x.sitter(SITTER);
+            x.cushion(softest, 2);
+            x.cushion((softest + 1) % 12, 1);
+            x.cushion((softest + 11) % 12, 1);
+            x.minutes(1);
+            due.is(14, "RULE 2: the softest of twelve", x.told(0, 1), softest);
+            for (int other = 0; other < 12; other++) {
+                x.rises(0);
+                int was = x.cushion(other, 2);
+                x.minutes(1);
+                due.is(14, "RULE 2: the lesser of " + softest + ", " + other, x.told(0, 1), Math.min(softest, other));
+                x.cushion(other, was);
+            }
+        }
+    }
+
     private static void inn() {
         for (int what : new int[] {-1, 4, LOW, HIGH}) {
             due.refused(15, "inn " + what, x -> x.inn(what), BAD);
@@ -313,6 +359,34 @@ public final class MinuteEdgesTest {
         due.asks(20, "nothing changes in a full inn", y -> { }, BenchSeats::fullUp, lived.fullUp());
     }
 
+    /** Whether anybody may yet sit is asked of each by its own kind. */
+    private static void fullUpByKind() {
+        int[] besideFriend = {0, 0, NONE, 0, NONE, 0};
+        int[] besideSitter = {0, 0, 0, 0, NONE, 0};
+        int[] betweenSame = {NONE, 0, NONE, 0, NONE, 0};
+        int[] betweenNone = {NONE, NONE, NONE, NONE, NONE, NONE};
+        for (int kind = 0; kind < 6; kind++) {
+            for (int seated = 0; seated <= 1; seated++) {
+                String which = "KIND " + kind + ", number " + (1 - seated);
+                due.is(20, which + " beside a FRIEND", fullUpBeside(kind, FRIEND, seated, 2, 0), besideFriend[kind]);
+                due.is(20, which + " beside a TWIN", fullUpBeside(kind, TWIN, seated, 2, 0), besideFriend[kind]);
+                due.is(20, which + " beside a SITTER", fullUpBeside(kind, SITTER, seated, 2, 0), besideSitter[kind]);
+                due.is(20, which + " round a tree", fullUpBeside(kind, SITTER, seated, 2, 1), betweenSame[kind]);
+                due.is(20, which + " between none", fullUpBeside(kind, SITTER, seated, 4, 0), betweenNone[kind]);
+            }
+        }
+    }
+
+    /** FULL UP where nobody comes, of one that stands beside one that sits AT 0, whose number is told. */
+    private static int fullUpBeside(int kind, int other, int seated, int n, int ring) {
+        BenchSeats x = by(1, 0, 0);
+        x.bench(n, ring, 0);
+        x.sitter(seated == 0 ? other : kind);
+        x.sitter(seated == 0 ? kind : other);
+        x.sits(seated, 0);
+        return x.fullUp();
+    }
+
     private static void roseRefusals() {
         int[][] wrong = {{0, 0}, {61, 0}, {-1, 1}, {LOW, 0}, {HIGH, 0}, {1, -1}, {1, 2}, {60, LOW}, {60, HIGH}, {0, 2},
             {61, -1}};
@@ -379,10 +453,13 @@ public final class MinuteEdgesTest {
         whoComes();
         byLot();
         byLeastAndBySoftest();
+        onlyWhereItMay();
+        softestAnywhere();
         inn();
         behindRefusals();
         behindBounds();
         fullUp();
+        fullUpByKind();
         roseRefusals();
         rose();
         due.end("MinuteEdgesTest", 14, 15, 19, 20, 21);

@@ -61,6 +61,22 @@ public final class OutlookEdgesTest {
         wholeOutlook("a RING of three", x, 1, 1, 3, 1, 7);
     }
 
+    /** Where some ways win and others do not, some are longer than others. */
+    private static void some() {
+        BenchSeats x = new BenchSeats();
+        wholeOutlook("a ROW of nine", x, 9, 3, 8878, 1, 0b000111000);
+        x.bench(9, 0, 1);
+        due.is(16, "MOST between WALLS that are somebody", x.goes(0), 9);
+        due.is(16, "FEWEST between WALLS that are somebody", x.goes(1), 5);
+        due.is(17, "WINNING between WALLS that are somebody", x.game(1), 0b011111110);
+        x.bench(4, 0, 0);
+        // It ends as 0 1 2 (0 2 1, 2 0 1), 1 2 3 (1 3 2, 3 1 2) or 0 3 (0 3, 3 0): who begins chooses in vain at the
+        // ends, where the other one shuts it at once, and wins in the middle.
+        wholeOutlook("a ROW of four", x, 3, 2, 6, 1, 0b0110);
+        x.bench(6, 1, 0);
+        wholeOutlook("a RING of six", x, 6, 2, 102, 0, 0);
+    }
+
     private static void large() {
         BenchSeats x = new BenchSeats();
         x.bench(12, 0, 0);
@@ -137,6 +153,14 @@ public final class OutlookEdgesTest {
         x.bench(12, 0, 0);
         x.cushion(11, 1);
         worthy("the least that can be taken with the last", x, 0, 51);
+        x.bench(4, 0, 0);
+        // It ends as 0 1 2, as 0 3 or as 1 2 3.
+        x.cushion(1, 10);
+        worthy("the first, though it can be taken with less, too", x, 0, 60);
+        x.cushion(3, 10);
+        worthy("the least of the way that gives most", x, 1, 70);
+        x.cushion(0, 30);
+        worthy("both give as much: the least", x, 0, 90);
         x.bench(2, 0, 1);
         worthy("free, but shut", x, 0, 0);
         Edge.seat(x, TWIN, 0);
@@ -276,6 +300,7 @@ public final class OutlookEdgesTest {
     public static void main(String[] args) {
         refusals();
         small();
+        some();
         large();
         whoeverStands();
         worthy();

@@ -61,6 +61,17 @@ public final class SheetEdgesTest {
         Edge.row(x, 2, 1, NONE);
         x.sheet(2, 1, 1);
         due.is(30, "NO NUMBER is gone, too", seen(x, 2, 0), 0);
+        for (int way = 0; way < 4; way++) {
+            x = new BenchSeats();
+            x.sheet(1, way & 1, 24);
+            for (int place = 0; place < 24; place++) {
+                x.mark(1, place, place + 7);
+            }
+            due.is(30, "all 24 anew", x.sheet(1, way >> 1, 24), 24);
+            for (int place = 0; place < 24; place++) {
+                due.is(30, "all 24 are 0", seen(x, 1, place), 0);
+            }
+        }
     }
 
     private static void markRefusals() {

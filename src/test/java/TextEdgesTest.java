@@ -206,6 +206,47 @@ public final class TextEdgesTest {
         reads("fee 1<1&1<1|1<1&1<1<1", 19);
     }
 
+    /** Each key with each of its letters another one, or one letter too few or too many. */
+    private static void keys() {
+        for (String key : new String[] {"fare", "fee", "fine"}) {
+            reads(key + " 1", IS_TEXT);
+            for (int i = 0; i < key.length(); i++) {
+                for (char other : new char[] {'a', 'e', 'f', 'z', 'F', 'A', 'E', '1', '(', (char) 230}) {
+                    String word = key.substring(0, i) + other + key.substring(i + 1);
+                    if (!word.equals(key)) {
+                        reads(word + " 1", 0);
+                    }
+                }
+                reads(key.substring(0, i) + key.substring(i + 1) + " 1", 0);
+                reads(key.substring(0, i) + "e" + key.substring(i) + "e 1", 0);
+            }
+        }
+    }
+
+    /** What one text leaves open, or how it ends, is nothing to the next one. */
+    private static void oneBehindAnother() {
+        String[] first = {"fee (((1", "fee " + times("(", 8), "fee " + times("!", 8), "fee 1<1<", "fee 1|2&3<4+5*",
+            "fee t", "fee 12", "fee (t)", "fee t ", "fine", "fee 1+", "fee " + times("!(", 8) + "1", "f", "", "fee 1 1",
+            ofLength(96)};
+        String[] then = {"fee 1)", "fee " + times("(", 8) + "1" + times(")", 8), "fee " + times("!", 8) + "7", "fee 1<2",
+            "fee 3", "fee1", "fee", "fine t", "1", "fee !0*6", "fee (1", "fee t+", " fee 9 "};
+        int[] faults = {5, IS_TEXT, IS_TEXT, IS_TEXT, IS_TEXT, 3, 3, 5, 0, IS_TEXT, 6, 6, IS_TEXT};
+        int[] gives = {0, 1, 1, 1, 3, 0, 0, 0, 0, 6, 0, 0, 9};
+        for (String one : first) {
+            for (int i = 0; i < then.length; i++) {
+                BenchSeats x = new BenchSeats();
+                Due.text(x, one);
+                int texts = x.count(9);
+                int want = faults[i] == IS_TEXT ? texts : -100 - faults[i];
+                String which = "\"" + then[i] + "\" behind \"" + one + "\"";
+                due.is(27, which, Due.text(x, then[i]), want);
+                if (faults[i] == IS_TEXT) {
+                    due.is(23, which + " gives", x.fee(), gives[i]);
+                }
+            }
+        }
+    }
+
     private static void longest() {
         reads(ofLength(96), IS_TEXT);
         reads(ofLength(95), IS_TEXT);
@@ -303,6 +344,30 @@ public final class TextEdgesTest {
         gives(0, "fee 1+(1=2)-1");
         gives(2, "fee !0+1");
         gives(0, "fee !(0+1)");
+        gives(2, "fee (1|0)+1");
+        gives(5, "fee (0|0)+5");
+        gives(6, "fee (2&3)+5");
+        gives(5, "fee (1&0)+5");
+        gives(7, "fee (2<3)*7");
+        gives(9, "fee (1+2)*3");
+        gives(12, "fee (8/2)*3");
+        gives(4, "fee !(0|1)+4");
+        gives(5, "fee !(0&1)+4");
+        gives(4, "fee 2*(3-1)");
+        gives(9, "fee 10-(3-2)");
+        gives(50, "fee 100/(10/5)");
+        gives(2, "fee (((1|0)))+1");
+        gives(8, "fee 7*(1|1)+1");
+        gives(1, "fee 0&1|1");
+        gives(0, "fee 0&(1|1)");
+        gives(1, "fee 2>1&1<2|0");
+        gives(-6, "fee 3*(1-(2+(0|1)))");
+        // As many signs as 96 bytes can keep waiting: none of them is lost.
+        gives(1, "fee " + times("0|1&0<0+2*(", 7) + "5" + times(")", 7));
+        gives(0, "fee " + times("0|1&0<0+2*(", 7) + "0" + times(")", 7));
+        gives(23, "fee 7+16*(" + times("0|1&0<0+2*(", 6) + "5" + times(")", 7));
+        gives(1023, "fee " + times("1+2*(", 8) + "3" + times(")", 8));
+        gives(0, "fee " + times("0|!(", 8) + "0" + times(")", 8));
         gives(0, "fee 0000");
         gives(12, "fee 0012");
         gives(9999, "fee 9999");
@@ -369,6 +434,8 @@ public final class TextEdgesTest {
         words();
         numbers();
         nesting();
+        keys();
+        oneBehindAnother();
         longest();
         textRefusals();
         values();
